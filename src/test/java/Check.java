@@ -9,7 +9,7 @@ final class Check {
         asked++;
         if (got != want) {
             wrong++;
-            if (wrong <= 40) {
+            if (wrong <= 12) {
                 System.out.println(call + " answered " + got + ", due is " + want);
             }
         }
@@ -17,10 +17,6 @@ final class Check {
 
     void due(String call, boolean got, boolean want) {
         due(call, got ? 1 : 0, want ? 1 : 0);
-    }
-
-    int wrongSoFar() {
-        return wrong;
     }
 
     void close() {
