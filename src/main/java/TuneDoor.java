@@ -1868,8 +1868,12 @@ public final class TuneDoor {
         }
 
         private boolean closeBracket(int sign) {
+            if (!seesSign(sign)) {
+                return fail(1);
+            }
             open--;
-            return readSign(sign);
+            advance();
+            return true;
         }
 
         private boolean readTest() {

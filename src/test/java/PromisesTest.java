@@ -151,6 +151,9 @@ public final class PromisesTest {
         due("notes alone", Check.house(x, "\n notes  2\nlong 5 ; "), 1);
         due("no tunes", x.has(2), 0);
         due("no doors", x.door(0, 0), NONE);
+        due("a text of 1600 bytes", Check.house(x, "notes 2 long 2;" + "worth 1 2;".repeat(158) + "     "), 159);
+        due("1600 signs", Check.house(x, ";".repeat(1600)), NONE);
+        due("their fault", x.fault(1), 0);
         due("tight and leading 0", Check.house(x, "notes 0003 long 02;note(old)+1 when[all]or all;"), 2);
     }
 
@@ -974,6 +977,15 @@ public final class PromisesTest {
         TuneDoor y = Check.told("notes 3 long 2; tune a 0 1 keep 9; tune b 2 0 keep 0; place 1 when kept=9; note 0 when kept=9; kept 0 when all;");
         due("later", y.same(0, 1, 0), 1);
         due("later", y.same(0, 1, 1), 1);
+        // The last note counts the hundreds, the one ahead of it its rounds; b stays, and WHISTLE 999 of a is it.
+        TuneDoor z = Check.told("notes 6 long 3; tune a 0 0 0 keep 0; tune b 1 1 4 keep 0; place 2 when kept=0;"
+            + "place 1 when kept=1 and last=0; note old when first=1; note old+1 when kept=0; note old+1 when kept=1 and last=0;"
+            + "note 1 when kept=98 and last=4 and sum=5; note old when all; kept kept+1 when all;");
+        due("only at 999", z.find(0, 0, z.note(1, 0, NONE)), 999);
+        due("of 0 .. 998", z.same(0, 1, 0), NONE);
+        due("one of 0 .. 998", z.same(1, 0, 0), NONE);
+        due("told apart up to 998", z.tells(0, 1, 998), 1);
+        due("not at 999", z.tells(0, 1, 999), NONE);
     }
 
     private static void telling() {
