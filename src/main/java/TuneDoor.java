@@ -135,13 +135,13 @@ public final class TuneDoor {
     public int letter(int kind, int which, int k) {
         int name = nameOf(kind, which);
         int letters = 0;
-        while (letters < Tokens.MOST_LETTERS && name >> Tokens.LETTER_BITS * letters > 0) {
+        while (letters < Tokens.MOST_LETTERS && (name >> (Tokens.LETTER_BITS * letters)) > 0) {
             letters++;
         }
         if (k < 0 || k >= letters) {
             return NONE;
         }
-        return 'a' - 1 + ((name >> Tokens.LETTER_BITS * (letters - 1 - k)) & 31);
+        return 'a' - 1 + ((name >> (Tokens.LETTER_BITS * (letters - 1 - k))) & 31);
     }
 
     private int nameOf(int kind, int which) {
@@ -779,7 +779,7 @@ public final class TuneDoor {
         }
 
         boolean hasEar(int tune) {
-            return tune >= 0 && tune < MAX_TUNES && (tunes >> tune & 1) == 1;
+            return tune >= 0 && tune < MAX_TUNES && ((tunes >> tune) & 1) == 1;
         }
 
         /** How many WHISTLES beyond COUNT open it. */
@@ -1071,16 +1071,16 @@ public final class TuneDoor {
         int all;
 
         static int noteIn(int tune, int place) {
-            return tune >> BITS * place & 7;
+            return (tune >> (BITS * place)) & 7;
         }
 
         static int withNote(int tune, int place, int note) {
-            return tune & ~(7 << BITS * place) | note << BITS * place;
+            return (tune & ~(7 << (BITS * place))) | (note << (BITS * place));
         }
 
         static int unlikeNotes(int tune, int other) {
             int unlike = tune ^ other;
-            return Integer.bitCount((unlike | unlike >> 1 | unlike >> 2) & LOW_BITS);
+            return Integer.bitCount((unlike | (unlike >> 1) | (unlike >> 2)) & LOW_BITS);
         }
 
         private static boolean isThere(int tune, int n) {

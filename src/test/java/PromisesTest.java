@@ -897,6 +897,9 @@ public final class PromisesTest {
         due("near(1)", nine("strict").near(1), NONE);
         due("near(-1)", nine("strict").near(-1), NONE);
         due("no ears", Check.told(SMALL + "door d window 9 0;").near(0), NONE);
+        due("three ears of 41", Check.told("notes 3 long 3; tune a 0 0 0 keep 0; tune b 1 1 1 keep 0; tune c 1 1 2 keep 0; note old when all;"
+            + "door d lip 40 0; person p door d tune a loses 0 errs 0; person q door d tune b loses 0 errs 0;"
+            + "person r door d tune c loses 0 errs 0;").near(0), 1);
         due("two ears", Check.told("notes 3 long 3; tune a 0 1 2 keep 0; tune b 1 2 2 keep 0; door d strict;"
             + "person p door d tune a loses 0 errs 0; person q door d tune b loses 0 errs 0;").near(0), 2);
     }
@@ -921,6 +924,14 @@ public final class PromisesTest {
         due("the door stays", x.door(0, 0), 0);
         due("the first of like ones", Check.told(text + "worth 0 0;").cost(0, 3, 0, 1), 0);
         due("without worth", nine("strict").cost(0, 1, 0, 0), 0);
+        TuneDoor far = Check.told("notes 6 long 4; tune a 0 0 0 0 keep 0; place kept when all; kept (kept+1)%4 when all;"
+            + "door d strict; person p door d tune a loses 0 errs 0; worth 1000 0;");
+        far.waste(0, 20);
+        due("20 is the best", far.cost(0, 1, 0, 1), 20);
+        due("it costs nothing", far.cost(0, 1, 20, 0), 0);
+        due("19 lets nobody in", far.cost(0, 1, 19, 0), 1000);
+        far.waste(0, 1);
+        due("all alike", far.cost(0, 1, 0, 1), 0);
     }
 
     private static void formsHeard() {
