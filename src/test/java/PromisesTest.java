@@ -58,15 +58,8 @@ public final class PromisesTest {
         CHECK.due(call, got, want);
     }
 
-    /** A text whose FAULT stands where ^ does. */
     private static void faulty(int what, String marked) {
-        TuneDoor x = new TuneDoor();
-        int place = marked.indexOf('^');
-        String text = marked.substring(0, place) + marked.substring(place + 1);
-        due("house of " + marked, Check.house(x, text), NONE);
-        due("fault of " + marked, x.fault(0), what);
-        due("its place in " + marked, x.fault(1), place);
-        due("NOTES after " + marked, x.has(0), 0);
+        CHECK.faulty(what, marked);
     }
 
     private static void newObject() {
