@@ -17,6 +17,7 @@ public final class ChanceEdgesTest {
         strangersByLip();
         strangersByTries();
         nearest();
+        nearestOfAllEars();
         nearestAtTheEnd();
         costsAsked();
         costsFloored();
@@ -28,6 +29,7 @@ public final class ChanceEdgesTest {
         sameTunes();
         telling();
         birds();
+        askingChangesNothing();
         CHECK.close();
     }
 
@@ -73,7 +75,7 @@ public final class ChanceEdgesTest {
 
     private static void weights() {
         CHECK.sentence("10 to the 9, times (loses, or 100 less loses) / 100 for each, the greatest whole number not above");
-        for (int loses : new int[] {0, 1, 33, 50, 67, 99, 100}) {
+        for (int loses : new int[] {0, 1, 8, 33, 50, 67, 99, 100}) {
             TuneDoor strict = Scenes.gray("strict", loses);
             TuneDoor wide = Scenes.gray("window 40 0", loses);
             for (int n = 1; n <= 8; n++) {
@@ -92,6 +94,7 @@ public final class ChanceEdgesTest {
         due("five", six.likely(0, 5) - together(1, 5, way -> way != 31), 0);
         due("five weigh nothing", together(1, 5, way -> way == 31), 0);
         due("four weigh 10", together(1, 4, way -> way == 15), 10);
+        due("eight of 8 in 100 weigh 1", together(8, 8, way -> way == 255), 1);
     }
 
     private static TuneDoor losing(String kind, int person, int ear) {
@@ -296,7 +299,17 @@ public final class ChanceEdgesTest {
         due("four notes, by the last", Check.told(String.format(ears, "1 1 1 1 1", "2 2 2 2 1")).near(0), 4);
         due("three notes", Check.told(String.format(ears, "5 4 3 0 0", "4 4 5 1 1")).near(0), 3);
         due("two notes, ahead of three", Check.told(String.format(ears, "0 1 0 0 1", "1 1 1 1 1")).near(0), 2);
+        due("one note, behind two", Check.told(String.format(ears, "1 1 0 0 0", "1 0 0 0 0")).near(0), 1);
         due("two notes, behind three", Check.told(String.format(ears, "1 0 1 0 1", "1 0 2 0 0")).near(0), 2);
+    }
+
+    private static void nearestOfAllEars() {
+        CHECK.sentence("of WHISTLES COUNT .. COUNT and A of all its EARS");
+        // All stay but c, which becomes another tune by WHISTLE 40: the last one of three EARS with 41 each.
+        String ears = "notes 6 long 2; tune a 0 0 keep 0; tune b 0 0 keep 0; tune c 0 0 keep 60; note old when not kept=99; kept kept+1 when kept>0 and kept<99;"
+            + "door d window %d 0; person p door d tune a loses 0 errs 0; person q door d tune b loses 0 errs 0; person r door d tune c loses 0 errs 0;";
+        due("up to 40", Check.told(String.format(ears, 40)).near(0), 1);
+        due("up to 39", Check.told(String.format(ears, 39)).near(0), NONE);
     }
 
     private static void nearestAtTheEnd() {
@@ -457,6 +470,10 @@ public final class ChanceEdgesTest {
         due("tune 1", even.sure(1, 0), NONE);
         due("tune -1", even.sure(-1, 0), NONE);
         due("no form", Check.told("notes 4 long 2; tune a 0 0 keep 0; " + Scenes.STILL).sure(0, 0), NONE);
+        // Heard 10 11, (0, 1, 1) and (1, 0, 1) fit, which stand side by side; they make 10 and 01.
+        TuneDoor beside = Check.told("notes 2 long 2; tune a 1 0 keep 0; place 1 when all;");
+        due("two leave two", beside.knows(0, 0, 2), 2);
+        due("sure by three", beside.sure(0, 0), 3);
         // Heard 00 10, two forms fit that do not agree; then 11 leaves one of them, 12 leaves none.
         String third = "notes 4 long 2; tune a 0 0 keep 0; place 1 when first=1; ";
         due("two leave two", Check.told(third).knows(0, 0, 2), 2);
@@ -499,7 +516,8 @@ public final class ChanceEdgesTest {
 
     /** b stays 1 1 4, and a becomes that by the WHISTLE behind the 900s' one with so many KEPT. */
     private static TuneDoor meeting(int kept) {
-        return Check.told("notes 6 long 3; tune a 0 0 0 keep 0; tune b 1 1 4 keep 0; tune c 1 2 3 keep 0; place 2 when kept=0;"
+        return Check.told("notes 6 long 3; tune a 0 0 0 keep 0; tune b 1 1 4 keep 0; tune c 1 2 3 keep 0;"
+            + "door d strict; person p door d tune b loses 0 errs 0; place 2 when kept=0;"
             + "place 1 when kept=1 and last=0; note old when first=1; note old+1 when kept=0; note old+1 when kept=1 and last=0;"
             + "note 1 when kept=" + kept + " and last=4 and sum=5; note old when all; kept kept+1 when all;");
     }
@@ -601,5 +619,55 @@ public final class ChanceEdgesTest {
         due("reset, once alone", Scenes.gray("reset 0 9").bird(0, 0, 40, 100), 1);
         due("a tune of nobody here", Check.told(Scenes.GRAY + "tune b 0 0 0 keep 0; door d strict; person p door d tune a loses 0 errs 0;").bird(0, 1, 0, 3), 1);
         due("a DOOR without EARS", Check.told(Scenes.GRAY + "door d lip 40 4;").bird(0, 0, 0, 3), 0);
+    }
+
+    /** All that is only asked, whatever was asked ahead of it. */
+    private static long[] asked(TuneDoor x, int turn) {
+        long[] all = new long[14];
+        for (int i = 0; i < all.length; i++) {
+            int which = (i * 3 + turn) % all.length;
+            all[which] = askedOne(x, which);
+        }
+        return all;
+    }
+
+    private static long askedOne(TuneDoor x, int which) {
+        switch (which) {
+            case 0: return x.stranger(0, NONE);
+            case 1: return x.stranger(1, NONE);
+            case 2: return x.same(0, 1, 1);
+            case 3: return x.near(0);
+            case 4: return x.cost(0, 2, 3, 0);
+            case 5: return x.cost(1, 2, 3, 1);
+            case 6: return x.likely(1, 4);
+            case 7: return x.mend(0);
+            case 8: return x.bird(1, 1, 3, 9);
+            case 9: return x.knows(0, 3, 3);
+            case 10: return x.sure(1, 3);
+            case 11: return x.would(1);
+            case 12: return x.bears(1);
+            default: return x.same(1, 0, 0);
+        }
+    }
+
+    private static void askingChangesNothing() {
+        CHECK.sentence("(All stays.)");
+        String text = Scenes.GRAY + "tune b 2 2 0 keep 0; door d window 9 9; door e lip 3 1; person p door d tune a loses 30 errs 0;"
+            + "person q door e tune b loses 40 errs 0; person r door d tune b loses 0 errs 0; worth 216 432;";
+        long[] first = asked(Check.told(text), 0);
+        TuneDoor x = Check.told(text);
+        for (int turn = 0; turn < 14; turn++) {
+            long[] again = asked(x, turn);
+            for (int i = 0; i < first.length; i++) {
+                due("question " + i + ", turn " + turn, again[i], first[i]);
+            }
+        }
+        due("strangers at the window", first[0], 20);
+        // WHISTLES as late as can be, asked about between two questions about strangers.
+        TuneDoor late = meeting(97);
+        for (int i = 0; i < 5; i++) {
+            due("the one tune", late.stranger(0, NONE), 1);
+            due("so late", late.same(1, 0, 1), 998);
+        }
     }
 }

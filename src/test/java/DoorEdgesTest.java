@@ -20,6 +20,7 @@ public final class DoorEdgesTest {
         numbers();
         rounds();
         finding();
+        tunesThatWere();
         earsAsked();
         earsThere();
         othersStay();
@@ -264,6 +265,27 @@ public final class DoorEdgesTest {
         due("tune 1", x.find(1, 0, 0), NONE);
         due("tune -1", x.find(-1, 0, 0), NONE);
         due("a tune it never is", Check.told(SMALL).find(0, 0, 1), NONE);
+    }
+
+    private static void tunesThatWere() {
+        CHECK.sentence("NONE if there is none such.");
+        TuneDoor x = Check.told(Scenes.GRAY + "tune b 0 0 1 keep 0; tune c 0 0 2 keep 0; door d strict; person p door d tune c loses 0 errs 0;");
+        due("told anew with one tune", Check.house(x, Scenes.GRAY + "door d strict;"), 5);
+        for (int tune = 1; tune < 3; tune++) {
+            due("note", x.note(tune, 0, NONE), NONE);
+            due("round", x.round(tune, 0) + x.round(tune, 1), 2 * NONE);
+            due("find", x.find(tune, 0, 1), NONE);
+            due("ear", x.ear(0, tune, 0), NONE);
+            due("knows", x.knows(tune, 0, 1), NONE);
+            due("sure", x.sure(tune, 0), NONE);
+            due("right", x.right(tune, 0, 1), NONE);
+            due("same", x.same(0, tune, 0), NONE);
+            due("same", x.same(tune, 0, 1), NONE);
+            due("tells", x.tells(0, tune, 0), NONE);
+            due("tells", x.tells(tune, 0, 0), NONE);
+            due("bird", x.bird(0, tune, 0, 1), NONE);
+        }
+        due("person", x.person(0, 0), NONE);
     }
 
     private static void earsAsked() {
@@ -546,7 +568,7 @@ public final class DoorEdgesTest {
         TuneDoor x = Scenes.gray("lip 0 1", 3, 3);
         // WHISTLE 3 is 0 0 3.
         String state = Scenes.state(x);
-        int[][] refused = {{0, 0, 0}, {0, 1, 0}, {0, 2, 3}, {0, 0, 6}, {0, 0, -1}, {0, 3, 0}, {0, -1, 0}, {1, 0, 1}, {-1, 0, 1},
+        int[][] refused = {{0, 0, 0}, {0, 1, 0}, {0, 2, 3}, {0, 0, 6}, {0, 0, -1}, {0, 3, 1}, {0, -1, 1}, {1, 0, 1}, {-1, 0, 1},
             {0, 0, Integer.MAX_VALUE}, {0, Integer.MAX_VALUE, 1}, {0, Integer.MIN_VALUE, 1}};
         for (int[] one : refused) {
             due("slip " + one[0] + " " + one[1] + " " + one[2], x.slip(one[0], one[1], one[2]), -2);

