@@ -20,6 +20,7 @@ public final class NightEdgesTest {
         imageRefused();
         imageWithoutNotes();
         refusals();
+        manyCalls();
         CHECK.close();
     }
 
@@ -469,6 +470,20 @@ public final class NightEdgesTest {
         due("a full tape", full.status(0), 0);
         counted(full, 0, 1, () -> full.feed(0, 0, 0, 0, 0));
         counted(full, 0, 2, () -> full.feed(0, 0, 0, 0, 0));
+    }
+
+    private static void manyCalls() {
+        CHECK.sentence("An object is used for at most 512 calls after it has been made");
+        TuneDoor x = new TuneDoor();
+        for (int i = 1; i <= 511; i++) {
+            due("call " + i, x.seed(-i), false);
+        }
+        due("the 512th", x.status(4), 511);
+        TuneDoor y = Scenes.gray("strict");
+        for (int i = 0; i < 500; i++) {
+            due("come " + i, y.come(0), 0);
+        }
+        due("let in", y.person(0, 5), 500);
     }
 
     /** This call makes the REFUSALS of one kind so many, and no others. */

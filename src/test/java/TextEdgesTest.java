@@ -65,6 +65,8 @@ public final class TextEdgesTest {
     // ---- promise 1
 
     private static void newObject() {
+        CHECK.sentence("`NONE = -1`: None; refused.");
+        due("NONE", NONE, -1);
         CHECK.sentence("No NOTES, no DOORS.");
         TuneDoor x = new TuneDoor();
         for (int what = 0; what < 8; what++) {
