@@ -41,6 +41,10 @@ final class Check {
         due(call, got ? 1 : 0, want ? 1 : 0);
     }
 
+    void due(String call, String got, String want) {
+        due(call + " [" + got + "]", got.equals(want), true);
+    }
+
     /** A text whose FAULT stands where ^ does; told to a new object, which has no NOTES then. */
     void faulty(int what, String marked) {
         TuneDoor x = new TuneDoor();
