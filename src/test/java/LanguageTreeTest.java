@@ -1,21 +1,13 @@
-import com.sun.source.tree.AssertTree;
 import com.sun.source.tree.BinaryTree;
 import com.sun.source.tree.BlockTree;
 import com.sun.source.tree.ClassTree;
 import com.sun.source.tree.CompilationUnitTree;
-import com.sun.source.tree.DoWhileLoopTree;
-import com.sun.source.tree.EnhancedForLoopTree;
 import com.sun.source.tree.ForLoopTree;
-import com.sun.source.tree.LambdaExpressionTree;
-import com.sun.source.tree.MemberReferenceTree;
 import com.sun.source.tree.MethodInvocationTree;
 import com.sun.source.tree.MethodTree;
 import com.sun.source.tree.NewArrayTree;
 import com.sun.source.tree.NewClassTree;
-import com.sun.source.tree.SynchronizedTree;
-import com.sun.source.tree.ThrowTree;
 import com.sun.source.tree.Tree;
-import com.sun.source.tree.TryTree;
 import com.sun.source.tree.TypeCastTree;
 import com.sun.source.tree.VariableTree;
 import com.sun.source.tree.WhileLoopTree;
@@ -49,6 +41,8 @@ public final class LanguageTreeTest extends TreePathScanner<Void, Void> {
     private static final Set<String> TYPES = Set.of("int", "long", "boolean", "char", "String", "int[]", "int[][]",
         "boolean[]", "Door[]", "Person[]", "TuneDoor", "Person", "Door", "House", "Rules", "Whistles", "Ways", "TuneSet",
         "Forms", "Tokens", "Reader");
+    private static final Set<Tree.Kind> FORBIDDEN = Set.of(Tree.Kind.LAMBDA_EXPRESSION, Tree.Kind.MEMBER_REFERENCE,
+        Tree.Kind.THROW, Tree.Kind.TRY, Tree.Kind.SYNCHRONIZED, Tree.Kind.ASSERT, Tree.Kind.DO_WHILE_LOOP);
     private static final int DEEPEST = 8;
 
     private final Trees trees;
@@ -72,46 +66,14 @@ public final class LanguageTreeTest extends TreePathScanner<Void, Void> {
         CHECK.close();
     }
 
-    private void never(String what, Tree tree) {
-        CHECK.due(what + " in " + method + ": " + tree.toString().lines().findFirst().orElse(""), true, false);
-    }
-
     // ---- rules 2 and 6: what may not stand in the file
 
     @Override
-    public Void visitLambdaExpression(LambdaExpressionTree tree, Void none) {
-        never("a lambda", tree);
-        return super.visitLambdaExpression(tree, none);
-    }
-
-    @Override
-    public Void visitMemberReference(MemberReferenceTree tree, Void none) {
-        never("a method reference", tree);
-        return super.visitMemberReference(tree, none);
-    }
-
-    @Override
-    public Void visitThrow(ThrowTree tree, Void none) {
-        never("throw", tree);
-        return super.visitThrow(tree, none);
-    }
-
-    @Override
-    public Void visitTry(TryTree tree, Void none) {
-        never("try", tree);
-        return super.visitTry(tree, none);
-    }
-
-    @Override
-    public Void visitSynchronized(SynchronizedTree tree, Void none) {
-        never("synchronized", tree);
-        return super.visitSynchronized(tree, none);
-    }
-
-    @Override
-    public Void visitAssert(AssertTree tree, Void none) {
-        never("assert", tree);
-        return super.visitAssert(tree, none);
+    public Void scan(Tree tree, Void none) {
+        if (tree != null) {
+            CHECK.due(tree.getKind() + " in " + method, FORBIDDEN.contains(tree.getKind()), false);
+        }
+        return super.scan(tree, none);
     }
 
     @Override
@@ -159,27 +121,19 @@ public final class LanguageTreeTest extends TreePathScanner<Void, Void> {
 
     @Override
     public Void visitForLoop(ForLoopTree tree, Void none) {
-        CHECK.due(method + ": a for with a bound", tree.getCondition() != null && !tree.getUpdate().isEmpty(), true);
-        CHECK.due(method + ": < or > in " + tree.getCondition(), String.valueOf(tree.getCondition()).matches(".*[<>].*"), true);
+        CHECK.due(method + ": a for that goes on", tree.getUpdate().isEmpty(), false);
+        bounded(tree.getCondition());
         return super.visitForLoop(tree, none);
     }
 
     @Override
     public Void visitWhileLoop(WhileLoopTree tree, Void none) {
-        CHECK.due(method + ": a counter in " + tree.getCondition(), tree.getCondition().toString().matches(".*[<>].*"), true);
+        bounded(tree.getCondition());
         return super.visitWhileLoop(tree, none);
     }
 
-    @Override
-    public Void visitDoWhileLoop(DoWhileLoopTree tree, Void none) {
-        never("do", tree);
-        return super.visitDoWhileLoop(tree, none);
-    }
-
-    @Override
-    public Void visitEnhancedForLoop(EnhancedForLoopTree tree, Void none) {
-        never("for over a row", tree);
-        return super.visitEnhancedForLoop(tree, none);
+    private void bounded(Tree condition) {
+        CHECK.due(method + ": a bound in " + condition, String.valueOf(condition).matches(".*[<>].*"), true);
     }
 
     // ---- rules 4, 11 and 12: what is called and made
